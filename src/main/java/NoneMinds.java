@@ -252,8 +252,7 @@ public final class NoneMinds {
         int all = Integer.bitCount(now.left);
         int below = power(all, n);
         int above = below - power(all - now.welcomeDishes(), n);
-        int shared = commonDivisor(above, below);
-        if (shared == 0) return BAD;
+        int shared = Math.max(1, commonDivisor(above, below));
         return (part == 0 ? above : below) / shared;
     }
 
@@ -376,11 +375,11 @@ public final class NoneMinds {
         return large;
     }
 
-    private static int get(int[] row, int place) {
+    private static int entry(int[] row, int place) {
         return place >= 0 && place < row.length ? row[place] : 0;
     }
 
-    private static void set(int[] row, int place, int number) {
+    private static void put(int[] row, int place, int number) {
         if (place >= 0 && place < row.length) row[place] = number;
     }
 
@@ -401,7 +400,7 @@ public final class NoneMinds {
             vetoes = 1;
             shuts = 90;
             hunger = 20;
-            for (int d = 0; d < DISH_LIMIT; d++) set(minutes, d, 20);
+            for (int d = 0; d < DISH_LIMIT; d++) put(minutes, d, 20);
         }
 
         boolean hasGuest(int i) {
@@ -417,11 +416,11 @@ public final class NoneMinds {
         }
 
         int kindOf(int i) {
-            return get(kinds, i);
+            return entry(kinds, i);
         }
 
         int minutesOf(int d) {
-            return get(minutes, d);
+            return entry(minutes, d);
         }
 
         boolean isInTime(int d, int minute) {
@@ -429,7 +428,7 @@ public final class NoneMinds {
         }
 
         int toldWorth(int i, int d) {
-            return hasGuest(i) && hasDish(d) ? get(told, i * DISH_LIMIT + d) : 0;
+            return hasGuest(i) && hasDish(d) ? entry(told, i * DISH_LIMIT + d) : 0;
         }
     }
 
@@ -442,7 +441,7 @@ public final class NoneMinds {
 
         void append(int letter) {
             if (length >= TEXT_LIMIT) return;
-            set(letters, length, letter);
+            put(letters, length, letter);
             length++;
         }
 
@@ -483,11 +482,11 @@ public final class NoneMinds {
             if (i >= GUEST_LIMIT) return false;
             int kind = figure();
             if (isOutside(kind, FRANK, CHOOSY)) return false;
-            set(menu.kinds, i, kind);
+            put(menu.kinds, i, kind);
             for (int d = 0; d < menu.dishes; d++) {
                 int told = figure();
                 if (told == NOTHING) return false;
-                set(menu.told, i * DISH_LIMIT + d, told);
+                put(menu.told, i * DISH_LIMIT + d, told);
             }
             menu.guests++;
             return skip(';');
@@ -497,7 +496,7 @@ public final class NoneMinds {
             int d = number();
             if (!menu.hasDish(d) || !skip(',')) return false;
             int minutes = number();
-            set(menu.minutes, d, minutes);
+            put(menu.minutes, d, minutes);
             return !isOutside(minutes, 1, 60) && skip(';');
         }
 
@@ -538,7 +537,7 @@ public final class NoneMinds {
         }
 
         private int peek() {
-            return place < length ? get(letters, place) : NOTHING;
+            return place < length ? entry(letters, place) : NOTHING;
         }
     }
 
@@ -573,12 +572,12 @@ public final class NoneMinds {
         }
 
         int spentBy(int i) {
-            return spent >> 2 * i & 3;
+            return spent >> (2 * i) & 3;
         }
 
         void strike(int i, int d) {
             vetoed |= 1 << d;
-            spent += 1 << 2 * i;
+            spent += 1 << (2 * i);
         }
     }
 
@@ -736,15 +735,18 @@ public final class NoneMinds {
 
         int fairDish() {
             int best = NOTHING;
+            int bestRank = NOTHING;
             for (int d = 0; d < menu.dishes; d++) {
-                if (isIn(left, d) && (best == NOTHING || isFairer(d, best))) best = d;
+                if (!isIn(left, d) || fairRank(d) <= bestRank) continue;
+                best = d;
+                bestRank = fairRank(d);
             }
             return best;
         }
 
-        private boolean isFairer(int a, int b) {
-            int ahead = leastWorth(a) - leastWorth(b);
-            return ahead > 0 || ahead == 0 && together(a, NOBODY) > together(b, NOBODY);
+        /** All together are worth less than 100 (nine guests, 9 each), so the least worth goes before that. */
+        private int fairRank(int d) {
+            return 100 * leastWorth(d) + together(d, NOBODY);
         }
 
         int lead(int a, int b) {
