@@ -30,7 +30,10 @@ public final class NoneMinds {
         laid = new Menu();
         draft = new Menu();
         moment = new Moment(laid);
-        layFirst();
+        // The first table goes through the reader like any other, so that there is one way to lay.
+        for (int place = 0; place < FIRST_TEXT.length(); place++) text.append(FIRST_TEXT.charAt(place));
+        text.readInto(laid);
+        text.length = 0;
     }
 
     // ---- tables
@@ -296,13 +299,6 @@ public final class NoneMinds {
 
     // ---- behind the face
 
-    /** The first table goes through the reader like any other, so that there is one way to lay. */
-    private void layFirst() {
-        for (int place = 0; place < FIRST_TEXT.length(); place++) text.append(FIRST_TEXT.charAt(place));
-        text.readInto(laid);
-        text.length = 0;
-    }
-
     /** The one moment is used again and again: no call makes an object. */
     private Moment at(int minute, int vetoed) {
         moment.menu = laid;
@@ -537,7 +533,7 @@ public final class NoneMinds {
         }
 
         private int peek() {
-            return place < length ? entry(letters, place) : NOTHING;
+            return place >= 0 && place < length && place < letters.length ? letters[place] : NOTHING;
         }
     }
 
@@ -671,7 +667,9 @@ public final class NoneMinds {
         }
 
         int leastWorth(int d) {
-            return value(opponent(d), d);
+            int least = TOP_WORTH;
+            for (int i = 0; i < menu.guests; i++) least = Math.min(least, value(i, d));
+            return least;
         }
 
         int opponent(int d) {

@@ -3,7 +3,9 @@ import java.nio.charset.StandardCharsets;
 import java.nio.file.Files;
 import java.nio.file.Path;
 import java.util.ArrayList;
+import java.util.HashMap;
 import java.util.List;
+import java.util.Map;
 import java.util.regex.Matcher;
 import java.util.regex.Pattern;
 
@@ -24,6 +26,7 @@ public final class LanguageTest {
         classes(code);
         loops(code);
         methods(code.split("\n", -1));
+        depth(code);
         CHECK.finish();
     }
 
@@ -89,5 +92,34 @@ public final class LanguageTest {
             CHECK.holds("seven parameters at most: " + lines[k].trim(), takes <= 7);
         }
         CHECK.holds("methods were found: " + names.size(), names.size() > 60);
+    }
+
+    /**
+     * How deep calls go, told by names alone: methods of the same name in two classes count as one, which makes it
+     * deeper, never less deep. A call of itself would come up as a depth above every bound.
+     */
+    private static void depth(String code) {
+        Map<String, String> bodies = new HashMap<>();
+        Matcher m = Pattern.compile("(?m)^( +)[^\\s=;/][^=;\n]*?\\b(\\w+)\\([^)\n]*\\) \\{$").matcher(code);
+        while (m.find()) {
+            if (List.of("for", "if", "switch").contains(m.group(2))) continue;
+            int end = code.indexOf("\n" + m.group(1) + "}", m.end());
+            bodies.merge(m.group(2), code.substring(m.end(), end), String::concat);
+        }
+        CHECK.holds("bodies were found: " + bodies.size(), bodies.size() > 60);
+        for (String name : bodies.keySet()) {
+            int depth = depthOf(name, bodies, 0);
+            CHECK.holds("at most eight deep: " + name + " goes " + depth, depth <= 8);
+        }
+    }
+
+    private static int depthOf(String name, Map<String, String> bodies, int above) {
+        if (above > 30) return 1;
+        int deepest = 0;
+        Matcher m = Pattern.compile("\\b(\\w+)\\(").matcher(bodies.get(name));
+        while (m.find()) {
+            if (bodies.containsKey(m.group(1))) deepest = Math.max(deepest, depthOf(m.group(1), bodies, above + 1));
+        }
+        return 1 + deepest;
     }
 }
