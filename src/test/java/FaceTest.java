@@ -27,11 +27,35 @@ public final class FaceTest {
         CHECK.due("constructors", constructors.length, 1);
         CHECK.holds("the constructor is public", Modifier.isPublic(constructors[0].getModifiers()));
         CHECK.due("what it takes", constructors[0].getParameterCount(), 0);
+        inside();
+        CHECK.finish();
+    }
+
+    private static void inside() {
+        int how = Modifier.PUBLIC | Modifier.PROTECTED;
         for (Class<?> inside : NoneMinds.class.getDeclaredClasses()) {
             CHECK.holds(inside + " is static", Modifier.isStatic(inside.getModifiers()));
-            CHECK.holds(inside + " is private", Modifier.isPrivate(inside.getModifiers()));
+            CHECK.due(inside + " is private or seen in the package", inside.getModifiers() & how, 0);
+            own(inside);
         }
-        CHECK.finish();
+        own(NoneMinds.class);
+    }
+
+    /** Some twenty fields at most; what is static is a constant of the types that the language leaves. */
+    private static void own(Class<?> type) {
+        int fields = 0;
+        for (Field field : type.getDeclaredFields()) {
+            if (field.isSynthetic()) continue;
+            if (!Modifier.isStatic(field.getModifiers())) {
+                fields++;
+                continue;
+            }
+            CHECK.holds(field + " is final", Modifier.isFinal(field.getModifiers()));
+            CHECK.holds(field + " is of a type for constants", field.getType() == type || List.of(int.class, long.class,
+                    boolean.class, char.class, String.class, int[].class, long[].class, char[].class, byte[].class)
+                    .contains(field.getType()));
+        }
+        CHECK.holds(type + " has some twenty fields at most: " + fields, fields <= 20);
     }
 
     private static void fields() {
@@ -39,7 +63,6 @@ public final class FaceTest {
         for (Field field : NoneMinds.class.getDeclaredFields()) {
             int how = field.getModifiers();
             if (!Modifier.isPrivate(how)) open.add(field.getName());
-            if (Modifier.isStatic(how)) CHECK.holds(field + " is final", Modifier.isFinal(how));
         }
         CHECK.holds("constants: " + open, open.equals(new TreeSet<>(Arrays.asList("BAD", "NO", "FULL", "NONE"))));
     }

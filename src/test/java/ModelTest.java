@@ -10,9 +10,6 @@ import java.util.TreeSet;
 /** Runs of 512 calls, the class against the model; and each answer of each call must have come up at least once. */
 public final class ModelTest {
     private static final int RUNS = 1500;
-    private static final String[] CALLS = {"write", "wipe", "fault", "lay", "guest", "dish", "worth", "pass", "veto",
-        "order", "undo", "most", "fair", "beats", "champion", "middle", "struck", "two", "houses", "waits", "heard",
-        "forget", "may", "suits", "against", "ask", "wheel", "evening", "keep", "back", "count"};
     /** Beside the usual ones, the answers that a call is to give at times. */
     private static final Map<String, int[]> REFUSALS = new HashMap<>();
 
@@ -42,7 +39,7 @@ public final class ModelTest {
 
     private void run() {
         for (int run = 0; run < RUNS && check.wrong() == 0; run++) oneRun(run);
-        for (String name : CALLS) {
+        for (String name : Run.CALLS) {
             TreeSet<Integer> seen = answers.getOrDefault(name, new TreeSet<>());
             for (int refusal : REFUSALS.getOrDefault(name, new int[0])) {
                 check.holds(name + " has answered " + refusal, seen.contains(refusal));
@@ -66,7 +63,7 @@ public final class ModelTest {
                 for (int k = 0; k < text.length(); k++) same(run, x, model, "write", text.charAt(k));
                 same(run, x, model, "lay");
             } else {
-                String name = CALLS[random.nextInt(CALLS.length)];
+                String name = Run.CALLS[random.nextInt(Run.CALLS.length)];
                 if (rare(name) && random.nextInt(8) != 0) continue;
                 same(run, x, model, name, arguments(name, model));
                 left--;
@@ -81,7 +78,7 @@ public final class ModelTest {
 
     private void same(int run, NoneMinds x, Model model, String name, int... a) {
         int want = model.call(name, a);
-        check.due("run " + run + " (" + model + "): " + name + Arrays.toString(a), call(x, name, a), want);
+        check.due("run " + run + " (" + model + "): " + name + Arrays.toString(a), Run.call(x, name, a), want);
         answers.computeIfAbsent(name, k -> new TreeSet<>()).add(want);
     }
 
@@ -112,49 +109,6 @@ public final class ModelTest {
             case "evening": return new int[] {near(0, 9999), near(1, 20), near(0, 1)};
             case "count": return new int[] {near(0, 8)};
             default: return new int[0];
-        }
-    }
-
-    private static int call(NoneMinds x, String name, int[] a) {
-        switch (name) {
-            case "write": return x.write(a[0]);
-            case "wipe": return x.wipe();
-            case "fault": return x.fault();
-            case "lay": return x.lay();
-            case "guest": return x.guest(a[0], a[1]);
-            case "dish": return x.dish(a[0], a[1]);
-            case "worth": return x.worth(a[0], a[1]);
-            case "pass": return x.pass(a[0]);
-            case "veto": return x.veto(a[0], a[1]);
-            case "order": return x.order(a[0]);
-            case "undo": return x.undo();
-            case "most": return x.most(a[0]);
-            case "fair": return x.fair(a[0]);
-            case "beats": return x.beats(a[0], a[1]);
-            case "champion": return x.champion();
-            case "middle": return x.middle();
-            case "struck": return x.struck(a[0]);
-            case "two": return x.two(a[0]);
-            case "houses": return x.houses(a[0]);
-            case "waits": return x.waits(a[0], a[1]);
-            default: return callMore(x, name, a);
-        }
-    }
-
-    private static int callMore(NoneMinds x, String name, int[] a) {
-        switch (name) {
-            case "heard": return x.heard(a[0], a[1], a[2]);
-            case "forget": return x.forget();
-            case "may": return x.may(a[0]);
-            case "suits": return x.suits(a[0]);
-            case "against": return x.against(a[0], a[1]);
-            case "ask": return x.ask(a[0]);
-            case "wheel": return x.wheel(a[0], a[1]);
-            case "evening": return x.evening(a[0], a[1], a[2]);
-            case "keep": return x.keep();
-            case "back": return x.back();
-            case "count": return x.count(a[0]);
-            default: throw new IllegalArgumentException(name);
         }
     }
 
